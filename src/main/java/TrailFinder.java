@@ -376,18 +376,19 @@ public final class TrailFinder {
     /** Keeps a piece of which so many pieces are new, or nothing of it: its number, or FULL. */
     private int keep(Piece piece, int fresh) {
         if (piece.size > MOST_SIZE || made + fresh > MOST_PIECES) return FULL;
-        enter(piece, 0);
+        made = enter(piece, pieces, made, 0);
         return piece.number;
     }
 
     /** Parts go in ahead of what they are parts of; those that have a number are in already. */
-    private void enter(Piece piece, int depth) {
-        if (piece.number != NONE || depth > DEEPEST || made >= pieces.length) return;
-        for (int i = 0; i < piece.parts.length; i++) enter(piece.parts[i], depth + 1);
-        if (made >= pieces.length) return;
-        pieces[made] = piece;
-        piece.number = made;
-        made++;
+    private static int enter(Piece piece, Piece[] pieces, int made, int depth) {
+        if (piece.number != NONE || depth > DEEPEST) return made;
+        int next = made;
+        for (int i = 0; i < piece.parts.length; i++) next = enter(piece.parts[i], pieces, next, depth + 1);
+        if (next < 0 || next >= pieces.length) return made;
+        pieces[next] = piece;
+        piece.number = next;
+        return next + 1;
     }
 
     private static Piece silence() {
@@ -599,7 +600,7 @@ public final class TrailFinder {
             length = Math.min(trail.length, MOST_DEEDS);
             sets = 1 << length;
             for (int i = 0; i < length; i++) names[i] = trail.tell(i, NAME);
-            weigh(piece, 0);
+            weigh(this, piece, 0);
             choose(costsOf(piece));
         }
 
@@ -629,33 +630,36 @@ public final class TrailFinder {
             return piece.costs;
         }
 
-        private void weigh(Piece piece, int depth) {
-            int[] costs = costsOf(piece);
-            Arrays.fill(costs, NEVER);
-            costs[0] = piece.fewest;
-            if (piece.kind == DEED) weighDeed(costs, piece.name);
-            if (piece.parts.length == 0 || depth > DEEPEST) return;
-            for (int i = 0; i < piece.parts.length; i++) weigh(piece.parts[i], depth + 1);
-            copy(costsOf(piece.parts[0]), costs);
-            if (piece.kind == LOOP) {
-                weighLoop(costs, piece.parts);
+        private static void weigh(Laying laying, Piece piece, int depth) {
+            if (piece.parts.length == 0 || depth > DEEPEST) {
+                laying.weighDeed(costsOf(piece), piece);
                 return;
             }
-            for (int i = 1; i < piece.parts.length; i++) {
-                int[] next = costsOf(piece.parts[i]);
-                if (piece.kind == ROW) inRow(costs, next);
-                if (piece.kind == CHOICE) cheaper(costs, next);
-                if (piece.kind == BESIDE) mixed(costs, next);
-            }
+            for (int i = 0; i < piece.parts.length; i++) weigh(laying, piece.parts[i], depth + 1);
+            laying.weighParts(costsOf(piece), piece.kind, piece.parts);
         }
 
-        private void weighDeed(int[] costs, int name) {
+        /** Of SILENT too, whose name is none of a deed. */
+        private void weighDeed(int[] costs, Piece piece) {
+            Arrays.fill(costs, NEVER);
+            costs[0] = piece.fewest;
             for (int i = 0; i < length; i++) {
-                if (names[i] == name) costs[1 << i] = 0;
+                if (names[i] == piece.name) costs[1 << i] = 0;
             }
         }
 
-        private void weighLoop(int[] costs, Piece[] parts) {
+        private void weighParts(int[] costs, int kind, Piece[] parts) {
+            for (int i = 0; i < parts.length; i++) {
+                int[] next = costsOf(parts[i]);
+                if (i == 0) copy(next, costs);
+                else if (kind == ROW) inRow(costs, next);
+                else if (kind == CHOICE) cheaper(costs, next);
+                else if (kind == BESIDE) mixed(costs, next);
+            }
+            if (kind == LOOP) weighRounds(costs, parts);
+        }
+
+        private void weighRounds(int[] costs, Piece[] parts) {
             Arrays.fill(others, NEVER);
             for (int i = 1; i < parts.length; i++) cheaper(others, costsOf(parts[i]));
             copy(others, rounds);
