@@ -273,7 +273,7 @@ public final class TrailFinder {
     }
 
     private static boolean isTime(int time) {
-        return time == MISSING || time >= 0 && time <= LATEST;
+        return time == MISSING || (time >= 0 && time <= LATEST);
     }
 
     private Case caseAt(int c) {
@@ -368,7 +368,7 @@ public final class TrailFinder {
         int slower = 0;
         for (int other = 0; other < waits.length; other++) {
             if (waited[other] == 0) continue;
-            if (waits[other] > waits[pair] || waits[other] == waits[pair] && other < pair) slower++;
+            if (waits[other] > waits[pair] || (waits[other] == waits[pair] && other < pair)) slower++;
         }
         return slower;
     }
@@ -485,7 +485,7 @@ public final class TrailFinder {
         Piece[] deeds = new Piece[Integer.bitCount(names)];
         int filled = 0;
         for (int name = 0; name < NAMES; name++) {
-            if ((names & 1 << name) == 0 || filled >= deeds.length) continue;
+            if ((names & (1 << name)) == 0 || filled >= deeds.length) continue;
             deeds[filled] = deedOf(name);
             filled++;
         }
@@ -523,7 +523,7 @@ public final class TrailFinder {
 
         private int row() {
             int row = 0;
-            for (int i = 0; i < length; i++) row |= tell(i, NAME) + 1 << i * NAME_BITS;
+            for (int i = 0; i < length; i++) row |= (tell(i, NAME) + 1) << (i * NAME_BITS);
             return row;
         }
     }
@@ -610,7 +610,7 @@ public final class TrailFinder {
             for (int set = 0; set < sets; set++) {
                 int price = length - Integer.bitCount(set) + costs[set];
                 int tells = numberOf(set);
-                if (price < least || price == least && tells > number) {
+                if (price < least || (price == least && tells > number)) {
                     least = price;
                     number = tells;
                 }
@@ -620,7 +620,7 @@ public final class TrailFinder {
         private static int numberOf(int set) {
             int tells = 0;
             for (int i = 0; i < MOST_DEEDS; i++) {
-                if ((set & 1 << i) != 0) tells += 32 >> i;
+                if ((set & (1 << i)) != 0) tells += 32 >> i;
             }
             return tells;
         }
@@ -668,7 +668,7 @@ public final class TrailFinder {
             // A round with no deed of the set only costs, so the last one has some.
             for (int set = 1; set < sets; set++) {
                 for (int i = 0; i < length; i++) {
-                    int ahead = set & (1 << i) - 1;
+                    int ahead = set & ((1 << i) - 1);
                     if (ahead != set) costs[set] = Math.min(costs[set], costs[ahead] + rounds[set ^ ahead]);
                 }
             }
@@ -679,7 +679,7 @@ public final class TrailFinder {
             for (int set = sets - 1; set >= 0; set--) {
                 int cheapest = NEVER;
                 for (int i = 0; i <= length; i++) {
-                    int ahead = set & (1 << i) - 1;
+                    int ahead = set & ((1 << i) - 1);
                     cheapest = Math.min(cheapest, costs[ahead] + next[set ^ ahead]);
                 }
                 costs[set] = cheapest;
@@ -689,7 +689,7 @@ public final class TrailFinder {
         private void mixed(int[] costs, int[] next) {
             for (int set = sets - 1; set >= 0; set--) {
                 int cheapest = costs[0] + next[set];
-                for (int some = set; some > 0; some = some - 1 & set) {
+                for (int some = set; some > 0; some = (some - 1) & set) {
                     cheapest = Math.min(cheapest, costs[some] + next[set ^ some]);
                 }
                 costs[set] = Math.min(cheapest, NEVER);
@@ -742,7 +742,7 @@ public final class TrailFinder {
         }
 
         private static int nameIn(int row, int i) {
-            int sign = i >= 0 && i < MOST_DEEDS ? row >> i * NAME_BITS & NAME_MASK : 0;
+            int sign = i >= 0 && i < MOST_DEEDS ? (row >> (i * NAME_BITS)) & NAME_MASK : 0;
             return sign >= 1 && sign <= NAMES ? sign - 1 : NONE;
         }
 
@@ -777,11 +777,9 @@ public final class TrailFinder {
             filled = 0;
             for (int i = 0; i < whole.filled; i++) {
                 int row = whole.rows[i];
-                if (kind == LOOP) {
-                    putStretches(row, part);
-                } else if (kind != CHOICE || within(row, part) != 0) {
-                    put(within(row, part));
-                }
+                int left = within(row, part);
+                if (kind == LOOP) putStretches(row, part);
+                else if (kind != CHOICE || left != 0) put(left);
             }
         }
 
@@ -791,8 +789,8 @@ public final class TrailFinder {
             for (int i = 0; i < MOST_DEEDS; i++) {
                 int name = nameIn(row, i);
                 if (name == NONE) break;
-                if ((part & 1 << name) == 0) continue;
-                left |= name + 1 << length * NAME_BITS;
+                if ((part & (1 << name)) == 0) continue;
+                left |= (name + 1) << (length * NAME_BITS);
                 length++;
             }
             return left;
@@ -803,8 +801,8 @@ public final class TrailFinder {
             int length = 0;
             for (int i = 0; i <= MOST_DEEDS; i++) {
                 int name = nameIn(row, i);
-                if (name != NONE && (part & 1 << name) != 0) {
-                    stretch |= name + 1 << length * NAME_BITS;
+                if (name != NONE && (part & (1 << name)) != 0) {
+                    stretch |= (name + 1) << (length * NAME_BITS);
                     length++;
                 } else {
                     if (length > 0) put(stretch);
@@ -828,7 +826,7 @@ public final class TrailFinder {
             cutInto = 0;
             int left = among;
             for (int name = 0; name < NAMES; name++) {
-                if ((left & 1 << name) == 0 || cutInto >= parts.length) continue;
+                if ((left & (1 << name)) == 0 || cutInto >= parts.length) continue;
                 int part = closed(1 << name, near) & among;
                 parts[cutInto] = part;
                 cutInto++;
@@ -841,7 +839,7 @@ public final class TrailFinder {
             int all = from;
             for (int step = 0; step < NAMES; step++) {
                 for (int name = 0; name < NAMES && name < steps.length; name++) {
-                    if ((all & 1 << name) != 0) all |= steps[name];
+                    if ((all & (1 << name)) != 0) all |= steps[name];
                 }
             }
             return all;
@@ -858,9 +856,9 @@ public final class TrailFinder {
             for (int a = 0; a < NAMES; a++) {
                 near[a] = 0;
                 for (int b = 0; b < NAMES; b++) {
-                    boolean there = (reached[a] & 1 << b) != 0;
-                    boolean back = (reached[b] & 1 << a) != 0;
-                    if (there == back) near[a] |= names & 1 << b;
+                    boolean there = (reached[a] & (1 << b)) != 0;
+                    boolean back = (reached[b] & (1 << a)) != 0;
+                    if (there == back) near[a] |= names & (1 << b);
                 }
             }
             // That two of these parts reach one another cannot be: if c, outside a part, reached
@@ -885,7 +883,7 @@ public final class TrailFinder {
 
         private boolean reaches(int part, int other) {
             for (int name = 0; name < NAMES; name++) {
-                if ((part & 1 << name) != 0 && (reached[name] & other) != 0) return true;
+                if ((part & (1 << name)) != 0 && (reached[name] & other) != 0) return true;
             }
             return false;
         }
@@ -924,7 +922,7 @@ public final class TrailFinder {
 
         private boolean goesTo(int body, int part) {
             for (int name = 0; name < NAMES; name++) {
-                if ((part & 1 << name) == 0) continue;
+                if ((part & (1 << name)) == 0) continue;
                 if ((ahead[name] & body & ~ends) != 0) return true;
                 if ((behind[name] & body & ~begins) != 0) return true;
                 if (someNotAll(ahead[name], ends) || someNotAll(behind[name], begins)) return true;

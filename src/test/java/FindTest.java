@@ -102,11 +102,13 @@ final class FindTest {
         found("L(R(ab)R(cd))", "abcdab");
         found("L(aL(b-))", "abba");
         found("L(aR(bc))", "abca");
+        found("L(aR(cb))", "acba");
         found("L(L(a-)b)", "aaba", "a");
         // The stretches of the body: ab, then cb; and those of the rest: d, then d.
         found("L(R(C(ac)b)d)", "abdcb", "cbdab");
         // c follows a, of the body, that ends none: c goes to the body, and nothing is left.
         found("L(C(abc)-)", "abacab");
+        found("L(C(abc)-)", "bcbabc");
         // c is followed by b, of the body, that begins none.
         found("L(C(abc)-)", "abcbab");
         // c follows b that ends some, but not d that ends some too.
@@ -131,6 +133,9 @@ final class FindTest {
         found("C(R(abc)L(de))", "abc", "ded", "d");
         found("L(abc)", "abaca");
         found("C(-C(L(C(ab)-)L(cd)))", "ab", "aba", "", "cdc");
+        // Eleven cuts, one within the other, until a name is alone.
+        found("C(aR(bC(cR(dC(eR(fC(gR(hC(iR(jC(kl)))))))))))",
+            "a", "bc", "bde", "bdfg", "bdfhi", "bdfhjk", "bdfhjl");
     }
 
     /** Part by part, each whole; deeds, choice, silent, loop of a flower; silent ahead. */
@@ -161,6 +166,8 @@ final class FindTest {
         check.due("dropped: row", PiecesTest.text(x, x.find()).equals("R(ab)"));
         x.drop(1, false);
         check.due("not dropped: beside", PiecesTest.text(x, x.find()).equals("B(ab)"));
+        x.drop(1, true);
+        check.due("dropped again: row", PiecesTest.text(x, x.find()).equals("R(ab)"));
         x.drop(0, true);
         x.drop(1, true);
         check.due("all dropped: silent", PiecesTest.text(x, x.find()).equals("-"));

@@ -35,6 +35,9 @@ final class PiecesTest {
         for (int name : new int[] {-2, -3, 12, LEAST, MOST}) check.due("deed(" + name + ")", x.deed(name), BAD);
         check.due("deed: the same again is another", x.deed(0), 13);
         for (int p = 14; p < 200; p++) check.due("deed: piece " + p, x.deed(3), p);
+        TrailFinder y = new TrailFinder();
+        for (int p = 0; p < 199; p++) y.deed(3);
+        check.due("join: the last", y.join(5, 0, 0), 199);
         check.due("deed: full", x.deed(3), FULL);
         check.due("deed: full, silent", x.deed(-1), FULL);
         check.due("deed: bad, though full", x.deed(12), BAD);
@@ -82,7 +85,7 @@ final class PiecesTest {
         check.due("more: size 118", x.more(last, last), FULL);
         check.due("join: size 119", x.join(3, last, last), FULL);
         check.due("join: 59 and 0", x.count(4), last + 2);
-        // 30 of 29 parts and one of 31: 1 + 28 + 31 is 60, and with 32 it is 61.
+        // 1 and 29 and 30 are 60.
         TrailFinder y = new TrailFinder();
         y.deed(0);
         y.join(2, 0, 0);
@@ -91,7 +94,9 @@ final class PiecesTest {
         int p30 = y.more(p29, 0);
         check.due("join: 29 and 30 make 60", y.piece(y.join(4, p29, p30), 3), 60);
         check.due("join: 30 and 30 make 61", y.join(4, p30, p30), FULL);
-        while (y.count(4) < 200) y.deed(1);
+        while (y.count(4) < 198) y.deed(1);
+        check.due("join: the last but one", y.join(2, 0, 0), 198);
+        check.due("more: the last", y.more(1, 0), 199);
         check.due("join: 200", y.join(2, 0, 0), FULL);
         check.due("join: bad, though 200", y.join(2, 0, 200), BAD);
         check.due("more: 200", y.more(1, 0), FULL);

@@ -126,6 +126,14 @@ final class TimesTest {
         // All waits are 0: by 12 a + b.
         int[] want = {3 * 12 + 4, 4 * 12 + 3, 4 * 12 + 5, 5 * 12 + 4, 5 * 12 + 5, NONE};
         for (int i = 0; i < want.length; i++) check.due("slow alike " + i, x.slow(i), want[i]);
+        x.open();
+        x.add(1, 0, 0, 0, 9);
+        x.add(1, 0, 0, 8, 0);
+        check.due("slow: a name behind itself, below 0", x.slow(5), 0);
+        x.drop(0, true);
+        check.due("slow: the first one dropped", x.slow(0), 0);
+        check.due("slow: and no other", x.slow(1), NONE);
+        check.due("slow: asked again", x.slow(0), 0);
     }
 
     private static void passes() {
@@ -179,8 +187,11 @@ final class TimesTest {
         x.drop(4, true);
         x.drop(0, true);
         counts(x, "with two dropped", 5, 3, 5, 2, 2, 3);
-        for (int c = 0; c < 5; c++) x.drop(c, true);
-        counts(x, "with all dropped", 5, 0, 0, 0, 2, 0);
+        x.open();
+        x.add(5, 0, 7, 1, 1);
+        counts(x, "with one more that is alike", 6, 4, 6, 2, 2, 3);
+        for (int c = 0; c < 6; c++) x.drop(c, true);
+        counts(x, "with all dropped", 6, 0, 0, 0, 2, 0);
         for (int what : new int[] {-1, 6, 7, LEAST, MOST}) check.due("count(" + what + ")", x.count(what), BAD);
     }
 }
