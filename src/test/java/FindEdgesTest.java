@@ -369,6 +369,9 @@ final class FindEdgesTest {
         found("L(lR(ka)b)", "lkal", "lbl");
         // Six trails, five others.
         found("L(fabcde)", "faf", "fbf", "fcf", "fdf", "fef");
+        // A cut BESIDE, tried ahead and in vain, leaves nothing behind.
+        found("L(L(C(bc)-)d)", "bdbcb", "ccbdcb");
+        found("L(C(bL(c-))L(ad))", "bac", "ccadab");
         // Eleven others: as many as there are.
         found("L(labcdefghijk)", "lalbl", "lcldl", "lelfl", "lglhl", "liljl", "lkl");
     }
