@@ -68,7 +68,7 @@ final class Edges {
         int[] answers = new int[reads.size() + 2];
         TrailFinder x = null;
         for (int i = 0; i < reads.size(); i++) {
-            if (i % 100 == 0) {
+            if (i % 60 == 0) {
                 x = new TrailFinder();
                 calls.on(x);
             }
